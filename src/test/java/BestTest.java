@@ -41,6 +41,16 @@ public final class BestTest {
         x.crane(3, 5);
         due("P18 the third to the fourth", x.turn(0), 218);
         due("P18 two", x.turn(1), 2);
+        LeanedOut z = new LeanedOut();
+        z.person(0, 1503);
+        z.person(0, 15);
+        due("P18 the first to the first window", z.turn(0), 0);
+        due("P18 one", z.turn(1), 1);
+        LeanedOut six = new LeanedOut();
+        for (int p = 0; p < 6; p++) six.person(0, p < 3 ? 100 * p + 19 : 1000 + 100 * (p - 3) + 9);
+        due("P18 six who look past each other", six.turn(0), -1);
+        six.crane(5, 2);
+        due("P18 the third to the sixth", six.turn(0), 212);
         // Two who look at one, who looks past both: of like ones the first window.
         LeanedOut y = new LeanedOut();
         y.person(0, 1000);
@@ -135,6 +145,13 @@ public final class BestTest {
         due("P20 the others are kept in the next day", x.warn(1, 0), 0);
         due("P20 the first of like ones", x.warn(1, 1), 2);
         for (int bad : new int[] {-1, 41, Integer.MIN_VALUE, Integer.MAX_VALUE}) due("P20 n", x.warn(bad, 0), -2);
+        LeanedOut y = Checks.under("leans 10; holds 30; minds 1;");
+        for (int p = 0; p < 6; p++) y.person(0, 100 * p + 10);
+        y.put(5, 2, 1);
+        due("P20 from 0 on 30 days' lean is held", y.warn(3, 0), 5);
+        due("P20 none", y.warn(3, 1), 0);
+        due("P20 the fourth day is too many", y.warn(4, 0), -1);
+        due("P20 six", y.warn(4, 1), 6);
         for (int bad : NEITHER) due("P20 what", x.warn(1, bad), -2);
     }
 
@@ -177,6 +194,14 @@ public final class BestTest {
         y.person(0, 1103);
         y.person(0, 1205);
         due("P21 the digits count those of the side alone", y.untangle(1, 0), 231);
+        // The second goes from place 2 to place 3, the others to 0, 1, 2 from beyond 2: it crosses all.
+        due("P21 as many are left", y.untangle(1, 1), 3);
+        LeanedOut z = new LeanedOut();
+        z.person(0, 19);
+        z.person(0, 112);
+        z.person(0, 215);
+        due("P21 the first's look goes, too", z.untangle(0, 0), 231);
+        due("P21 the first's look goes, too", z.untangle(0, 1), 0);
     }
 
     private static void strain() {
@@ -197,6 +222,13 @@ public final class BestTest {
         due("P22 over", x.strain(1, 1), 2);
         due("P22 holds 0", x.strain(2, 0), LeanedOut.NO);
         due("P22 holds 0", x.strain(2, 1), LeanedOut.NO);
+        x.put(2, 2, 5);
+        due("P22 holds 0", x.strain(2, 0), LeanedOut.NO);
+        due("P22 holds 0", x.strain(2, 1), LeanedOut.NO);
+        x.person(51, 410);
+        x.put(3, 2, 7);
+        due("P22 holds 1", x.strain(3, 0), 7);
+        due("P22 holds 1", x.strain(3, 1), 1);
         for (int bad : NEITHER) due("P22 part", x.strain(0, bad), LeanedOut.NO);
         for (int bad : WRONG) due("P22 none", x.strain(bad, 0), LeanedOut.NO);
     }

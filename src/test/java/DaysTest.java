@@ -37,6 +37,17 @@ public final class DaysTest {
         due("P11 by how many", x.street(3), 2);
         due("P11 by nobody", x.street(4), 4 | 32);
         for (int bad : new int[] {-1, 5, Integer.MIN_VALUE, Integer.MAX_VALUE}) due("P11 bad", x.street(bad), -2);
+        LeanedOut y = new LeanedOut();
+        y.person(0, 1000);
+        due("P11 looked at by one", y.street(2), 0);
+        due("P11 looked at by one", y.street(3), 1);
+        due("P11 the first, whom nobody looks at", y.street(4), 1);
+        y.image();
+        y.person(0, 10);
+        due("P11 met", y.street(0), 1);
+        y.back();
+        int[] alone = {0, 0, 0, 1, 1};
+        for (int what = 0; what < 5; what++) due("P11 none of those who are none", y.street(what), alone[what]);
     }
 
     private static void crossings() {
@@ -71,6 +82,10 @@ public final class DaysTest {
         x.person(0, 211);
         due("P12 round", x.chain(3), 8 | 32);
         due("P12 into a round", x.chain(0), 1 | 2 | 4 | 8 | 32);
+        LeanedOut six = new LeanedOut();
+        int[] row = {10, 1001, 111, 1102, 212, 1203};
+        for (int p = 0; p < 6; p++) six.person(0, row[p]);
+        due("P12 six", six.chain(0), 63);
         LeanedOut y = new LeanedOut();
         for (int bad : WRONG) due("P12 none", y.chain(bad), -5);
         due("P12 none", y.chain(0), -5);

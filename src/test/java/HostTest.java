@@ -139,6 +139,9 @@ public final class HostTest {
         Checks.row(x, 1, 1, 1, 412, 2, 512, 3, 612, 4, 712, 5, 812);
         due("P37 as many as have room", x.peopleBy(1, 1, 0, 5), 3);
         due("P37 six", x.count(0), 6);
+        LeanedOut y = new LeanedOut();
+        Checks.row(y, 1, 1, 1, 412, 2, 512, 3, 612, 4, 712, 5, 812, 6, 912);
+        due("P37 six at once", y.peopleBy(1, 1, 0, 6), 6);
     }
 
     private static void peopleByRefused() {

@@ -72,6 +72,12 @@ public final class TextTest {
         fault("leans leans;", 6);
         fault("leans leanx;", 6);
         fault("leans Lean;", 6);
+        fault("leans leanz;", 6);
+        fault("leans alean;", 6);
+        fault("leans xean;", 6);
+        fault("xeans 1;", 0);
+        fault("leans lea;", 6);
+        fault("lean 1;", 0);
         fault("leans lean across;", 11);
         fault("leans 1A;", 7);
         fault("leans 1\t;", 7);
@@ -141,6 +147,11 @@ public final class TextTest {
         says("1+1=2", 1);
         says("3*(1<2)", 3);
         says("5 and 7", 1);
+        says("1 and 1", 1);
+        says("1 and 2 and 0", 0);
+        says("0 or 0 or 3", 1);
+        says("2*3*4", 24);
+        says("1 or 1", 1);
         says("5 and 0", 0);
         says("0 or 7", 1);
         says("0 or 0", 0);

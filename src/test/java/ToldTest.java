@@ -188,6 +188,12 @@ public final class ToldTest {
         due("P28", x.laws(0, 0), 8);
         Checks.row(x, 0, 0, 7);
         due("P28", x.laws(0, 0), 0);
+        Checks.row(x, 0, 0);
+        due("P28 all", x.laws(0, 0), 15);
+        Checks.row(x, 0, 0, 0);
+        due("P28 none that is none yet", x.laws(0, 0), 0);
+        for (int t = 4; t < 6; t++) due("text", Checks.text(x, "leans 0; holds 9; minds 1;"), t);
+        due("P28 six", x.laws(0, 0), 16 | 32);
         due("P28 in thought", x.count(4), 1);
         due("P28 in thought", x.asks(0, 0), 5);
     }
@@ -238,6 +244,20 @@ public final class ToldTest {
         due("P30 kept", x.drawn(0, 0), over);
         due("P30 in thought", x.count(2) + x.count(1), 0);
         for (int p = 0; p < 6; p++) due("P30 in thought", x.told(p, 7), 0);
+        for (int over1 = 1; over1 < 60; over1++) {
+            LeanedOut y = Checks.under("leans across; holds " + over1 + "; minds 1;");
+            // At the street's other end places stay as they are; window 10 is of the second side.
+            for (int p = 0; p < 6; p++) y.person(0, 1000 + 101 * p);
+            int bits = 0;
+            for (int q = 0; q < 6; q++) if (lean[q] > over1) bits |= 1 << q;
+            due("P30 over " + over1, y.drawn(0, 0), bits);
+        }
+        LeanedOut eight = Checks.under("leans 1; holds 7; minds 1;");
+        eight.person(0, 15);
+        due("P30 eight days", eight.drawn(5, 0), 1);
+        due("text", Checks.text(eight, "leans 1; holds 8; minds 1;"), 2);
+        eight.force(2);
+        due("P30 eight days, no more", eight.drawn(5, 0), 0);
         for (int bad : new int[] {-1, 100000, Integer.MIN_VALUE, Integer.MAX_VALUE}) {
             due("P30 seed", x.drawn(bad, 0), -2);
         }
@@ -245,14 +265,14 @@ public final class ToldTest {
         drawnMet();
     }
 
-    /** Nobody is a number that lots take, most days: the first takes it, or none does. */
+    /** Two alone: a lot of another number turns nobody. At last they are met, or not. */
     private static void drawnMet() {
-        int[] seeds = {0, 1, 7, 99999};
-        for (int seed : seeds) {
+        int never = 0;
+        for (int seed = 0; seed < 100000; seed += 333) {
             LeanedOut x = new LeanedOut();
-            x.person(0, 15);
-            x.person(0, 1500);
-            int[] look = {5, 0};
+            x.person(0, 10);
+            x.person(0, 1000);
+            int[] look = {0, 0};
             long lot = seed + 1;
             for (int d = 0; d < 8; d++) {
                 lot = lot * 48271 % 2147483647L;
@@ -260,8 +280,11 @@ public final class ToldTest {
                 lot = lot * 48271 % 2147483647L;
                 if (p < 2) look[p] = (int) (lot % 10);
             }
-            due("P30 met, seed " + seed, x.drawn(seed, 1), look[0] == 5 && look[1] == 0 ? 1 : 0);
+            boolean met = look[0] == 0 && look[1] == 0;
+            if (!met) never++;
+            due("P30 met, seed " + seed, x.drawn(seed, 1), met ? 1 : 0);
         }
+        due("P30 some are, some aren't", never > 0 && never < 300 ? 1 : 0, 1);
     }
 
     private static void odds() {
@@ -294,6 +317,7 @@ public final class ToldTest {
         }
         for (int bad : WRONG) due("P31 p", x.odds(0, 1, bad, 0), LeanedOut.NO);
         for (int bad : NEITHER) due("P31 part", x.odds(0, 1, 0, bad), LeanedOut.NO);
+        for (int p = 0; p < 2; p++) due("P31 one seed, " + p, x.odds(7, 1, p, 1), 1);
         LeanedOut y = Checks.under("leans 0; holds 1; minds 1;");
         y.person(0, 10);
         due("P31 never", y.odds(0, 40, 0, 0), 0);
