@@ -195,7 +195,9 @@ public final class LeanedOut {
         int p = ofAll ? 0 : what - 10;
         if (n < 0 || n > RUN_DAYS || !ofAll && (what < 10 || !now.has(p))) return RUN_NOT_SO;
         thought.become(now);
-        thought.passDays(n);
+        for (int i = 0; i < n; i++) {
+            thought.passDay();
+        }
         switch (what) {
             case 0: return thought.keptBits();
             case 1: return thought.mindingOfTheRest();
@@ -530,8 +532,11 @@ public final class LeanedOut {
         return KEEP_DAYS + 1;
     }
 
+    /** From the thought on: how many are kept behind n days. */
     private int keptBehind(int n) {
-        thought.passDays(n);
+        for (int i = 0; i < n; i++) {
+            thought.passDay();
+        }
         return Integer.bitCount(thought.keptBits());
     }
 
@@ -915,12 +920,6 @@ public final class LeanedOut {
             }
             day++;
             return bits;
-        }
-
-        void passDays(int n) {
-            for (int i = 0; i < n; i++) {
-                passDay();
-            }
         }
     }
 
