@@ -624,7 +624,12 @@ public final class EdgeCallsTest {
         due("P34 still missing", x.cell(0, 0, 1), -11);
         for (int n : new int[] {0, 1, 39, 40}) {
             for (int sort = 0; sort < 3; sort++) {
+                x = new LeanedOut();
+                x.person(50, 10);
                 due("P34", x.sheet(0, sort, n), 1);
+                // Whatever stood there: a row anew is all 0.
+                for (int i = 0; i < n; i++) x.cell(0, i, 9);
+                due("P34 anew", x.sheet(0, sort, n), 1);
                 due("P34 as many", Reading.size(x, 0), n);
                 due("P35 behind", x.cell(0, n, 1), -12);
                 due("P35 ahead", x.cell(0, -1, 1), -12);

@@ -400,8 +400,9 @@ public final class EdgeTermsTest {
         due("SHEETS 0 .. 3", x.cell(-1, 0, 0), -2);
         int[] put = {0, 99, 127, 128, 255, 256, 256 + 99, -256, -255, -128, -1, 32767, 32768, 65535, 65536,
             65536 + 99, 65536 + 256, -65536, -65535, 1 << 24, MOST, LEAST, LEAST + 99, -2147483549};
-        x.person(50, 10);
         for (int v : put) {
+            x = new LeanedOut();
+            x.person(50, 10);
             int[] as = {(byte) v, (short) v, v};
             for (int sort = 0; sort < 3; sort++) {
                 Checks.row(x, 0, sort, v);
@@ -410,6 +411,7 @@ public final class EdgeTermsTest {
             }
         }
         for (int n = 0; n <= 40; n += 8) {
+            x = new LeanedOut();
             x.sheet(1, n % 3, n);
             due("40 at most: " + n, Reading.size(x, 1), n);
         }

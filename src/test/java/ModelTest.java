@@ -2,7 +2,8 @@ import java.util.Random;
 
 /** Long runs of calls, drawn by fixed seeds, against the model; an argument asks for more runs. */
 public final class ModelTest {
-    private static final int RUNS = 60, CALLS = 500;
+    // A text takes up to 33 calls at once, and of an object nothing is promised behind its 512th.
+    private static final int RUNS = 80, CALLS = 512 - 33;
     private static final int[] FAR = {Integer.MIN_VALUE, Integer.MIN_VALUE + 1, -100, 100, 1000, 65536,
         Integer.MAX_VALUE - 1, Integer.MAX_VALUE};
     private static final String[] BITS = {"leans", "holds", "minds", ";", "and", "or", "not", "(", ")", "+", "-",
@@ -13,6 +14,7 @@ public final class ModelTest {
     private final LeanedOut x = new LeanedOut();
     private final Model m = new Model();
     private final StringBuilder log = new StringBuilder();
+    private int calls = 0;
 
     private ModelTest(long seed) {
         r = new Random(seed);
@@ -25,10 +27,10 @@ public final class ModelTest {
     }
 
     private void run(int run) {
-        for (int c = 0; c < CALLS; c++) {
+        while (calls < CALLS) {
             String was = one();
             if (was != null) {
-                Checks.fail("run " + run + ", call " + c + ": " + was + "\n  behind" + log);
+                Checks.fail("run " + run + ", call " + calls + ": " + was + "\n  behind" + log);
                 return;
             }
         }
@@ -59,6 +61,7 @@ public final class ModelTest {
     }
 
     private String same(String call, long got, long want) {
+        calls++;
         if (log.length() > 6000) log.delete(0, 3000);
         log.append("\n    ").append(call).append(" ").append(want);
         return got == want ? null : call + " answered " + got + ", the model says " + want;
